@@ -807,7 +807,6 @@ public final class TellKeys {
 
         void empty() {
             size = 0;
-            at = 0;
         }
 
         int ahead() {

@@ -81,9 +81,12 @@ public final class AskedTest {
         Due.house(x, "5-6l4,6-7,7-8");
         x.key(GLASS, 1);
         x.wash(2, 0);
+        x.next();
+        x.door(0, 2, 0);
+        x.visit(2, 2, 30);
+        DUE.is("a stain of another day", 3, x.told(0, 4));
         x.change(0, 3);
         x.change(1, 1);
-        x.next();
         x.sheet(0, 1, 5);
         x.type(Due.word("n;n"), 3);
         DUE.is("restore", 1, x.restore());

@@ -238,6 +238,7 @@ public final class DoorsKeysTest {
         DUE.is("a key of another one", 0, Due.week(x, "w11;n"));
         DUE.is("a key that is there", 2, Due.week(x, "c0>4;c0>0;c0>0;n"));
         DUE.is("it ended there, too", 1, x.count(3));
+        DUE.is("keys from sister 0 and 1 on", 4, Due.week(x, "c0>1;c0>2;c0>0;c0>4"));
         DUE.is("a shut way alone", 0, Due.week(x, "v3>2:1"));
         DUE.is("it is emptied then, too", -20, x.week());
         for (int i = 1; i < 997; i++) {
@@ -280,6 +281,9 @@ public final class DoorsKeysTest {
             x.key(3, 0);
         }
         DUE.is("the highest of each", 2, Due.week(x, "c7>3;w37"));
+        DUE.is("the last room", 0, Due.week(x, "v3>9:1"));
+        x.door(9, 10, 7);
+        DUE.is("the last room, with its key", 1, Due.week(x, "v3>9:1"));
         DUE.is("a key above them", -21, Due.week(x, "c8>3"));
     }
 
@@ -296,7 +300,7 @@ public final class DoorsKeysTest {
         DUE.is("windows", 2, x.count(5));
         x.door(10, 5, 8);
         DUE.is("windows from the other side", 3, x.count(5));
-        x.visit(0, 1, 4);
+        x.visit(0, 1, 1);
         x.visit(0, 2, 0);
         DUE.is("keys with a stain", 1, x.count(2));
         DUE.is("none shows it today", 0, x.count(4));

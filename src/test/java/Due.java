@@ -17,6 +17,10 @@ final class Due {
         }
     }
 
+    long answers() {
+        return right + wrong;
+    }
+
     void holds(String what, boolean so) {
         is(what, 1, so ? 1 : 0);
     }
