@@ -18,6 +18,7 @@ public final class DoorsKeysTest {
         promise8Faults();
         promise8Bounds();
         promise9();
+        promise9Full();
         DUE.end();
     }
 
@@ -315,5 +316,27 @@ public final class DoorsKeysTest {
         DUE.is("what below", BAD, x.count(-1));
         DUE.is("what above", BAD, x.count(6));
         DUE.is("what far off", BAD, x.count(Integer.MAX_VALUE));
+    }
+
+    private static void promise9Full() {
+        TellKeys x = new TellKeys();
+        StringBuilder text = new StringBuilder();
+        for (int i = 0; i < 8; i++) {
+            text.append(i == 0 ? "" : ",").append("0-").append(i + 1).append('l').append(i);
+        }
+        Due.house(x, text + ",1-g,2-g,g-3,4-g,5-g,6-g,7-g,8-g");
+        for (int i = 0; i < 8; i++) {
+            x.key(0, 1);
+            x.change(i, 3);
+            x.visit(3, i + 1, i + 1);
+        }
+        x.next();
+        int[] counts = {16, 8, 8, 1, 8, 8};
+        for (int what = 0; what < 6; what++) {
+            DUE.is("full: count(" + what + ")", counts[what], x.count(what));
+        }
+        DUE.is("full: fits", 0x1fe, x.fits(2, 8, 1));
+        DUE.is("full: seen", 2, x.seen(3, 8, 0));
+        DUE.is("full: a film", 8, x.sheet(0, 2, 8) == 8 ? x.film(0, 2, 0) : 0);
     }
 }
