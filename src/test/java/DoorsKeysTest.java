@@ -242,9 +242,7 @@ public final class DoorsKeysTest {
         DUE.is("keys from sister 0 and 1 on", 4, Due.week(x, "c0>1;c0>2;c0>0;c0>4"));
         DUE.is("a shut way alone", 0, Due.week(x, "v3>2:1"));
         DUE.is("it is emptied then, too", -20, x.week());
-        for (int i = 1; i < 997; i++) {
-            x.next();
-        }
+        Due.goTo(x, 997);
         DUE.is("days end", 2, Due.week(x, "n;n;n;c1>0"));
         DUE.is("the last day", 999, x.count(3));
         DUE.is("nothing behind it was done", 2, x.told(1, 2));

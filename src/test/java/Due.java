@@ -66,4 +66,65 @@ final class Due {
             x.item(sheet, lane, i, items[i]);
         }
     }
+
+    /** A house, and keys that tell, all of them of a sister. */
+    static TellKeys with(String house, int sister, int... kinds) {
+        TellKeys x = new TellKeys();
+        house(x, house);
+        for (int i = 0; i < kinds.length; i++) {
+            x.key(kinds[i], 1);
+            x.change(i, sister);
+        }
+        return x;
+    }
+
+    /** Goes on to a day, by weeks of 80 days as long as they fit: few calls, as an object has 512. */
+    static void goTo(TellKeys x, int day) {
+        while (x.count(3) + 80 <= day) {
+            week(x, "n;".repeat(79) + "n");
+        }
+        while (x.count(3) < day) {
+            x.next();
+        }
+    }
+
+    /**
+     * An item of a sheet, if it is the number of a key there is, else -1. It is taken to sheet 3, which is made anew,
+     * and asked for beside each key, as no key may come twice.
+     */
+    static int read(TellKeys x, int sheet, int lane, int i) {
+        int today = x.count(3);
+        x.sheet(3, lane, 4);
+        if (x.copy(sheet, i, 3, 0, 1) != 1) {
+            return -1;
+        }
+        x.item(3, lane, 1, today);
+        x.item(3, lane, 3, today);
+        if (x.asked(3, lane, 0, 1, -1) == TellKeys.NOT) {
+            return -1;
+        }
+        int keys = x.count(1);
+        for (int key = 0; key < keys; key++) {
+            x.item(3, lane, 2, key);
+            if (x.asked(3, lane, 0, 2, -1) == TellKeys.NOT) {
+                return key;
+            }
+        }
+        return -1;
+    }
+
+    /** All that can be asked of keys, doors and counts, in one text. */
+    static String state(TellKeys x) {
+        StringBuilder text = new StringBuilder();
+        for (int what = 0; what <= 5; what++) {
+            text.append(x.count(what)).append(' ');
+        }
+        for (int i = x.count(1) * 5 - 1; i >= 0; i--) {
+            text.append(x.told(i / 5, i % 5)).append(' ');
+        }
+        for (int i = x.count(0) * 3 - 1; i >= 0; i--) {
+            text.append(x.of(i / 3, i % 3)).append(' ');
+        }
+        return text.toString();
+    }
 }

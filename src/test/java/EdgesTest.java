@@ -71,9 +71,9 @@ public final class EdgesTest {
             x.sheet(sheet, sheet % 3, sheet == 1 ? 0 : 24);
             m.sheet(sheet, sheet % 3, sheet == 1 ? 0 : 24);
         }
-        for (int i = 0; i < state * 80; i++) {
-            x.type(' ', 1);
-            m.type(' ', 1);
+        for (int i = 0; i < state * 10; i++) {
+            x.type(Due.word(" ".repeat(8)), 8);
+            m.type(Due.word(" ".repeat(8)), 8);
         }
         if (state == 2) {
             x.image();

@@ -3,20 +3,26 @@ import java.lang.management.ManagementFactory;
 
 /** All calls of one run live in one room: an object is small, and no call takes any room. */
 public final class RoomTest {
-    private static final int CALLS = 512;
+    private static final int OBJECTS = 40;
+    private static final int ROUNDS = 26;
     private static final int BYTES_OF_AN_OBJECT = 16_384;
 
     public static void main(String[] args) {
         Due due = new Due("RoomTest");
         ThreadMXBean threads = (ThreadMXBean) ManagementFactory.getThreadMXBean();
+        TellKeys[] all = new TellKeys[OBJECTS];
         work(new TellKeys());
         room(threads);
         long start = room(threads);
-        TellKeys x = new TellKeys();
+        for (int i = 0; i < OBJECTS; i++) {
+            all[i] = new TellKeys();
+        }
         long made = room(threads);
-        work(x);
+        for (TellKeys x : all) {
+            work(x);
+        }
         long done = room(threads);
-        due.holds("an object takes " + (made - start) + " bytes", made - start <= BYTES_OF_AN_OBJECT);
+        due.holds("an object takes " + (made - start) / OBJECTS + " bytes", made - start <= OBJECTS * BYTES_OF_AN_OBJECT);
         // a reading of the room may take a little itself
         due.holds("calls take " + (done - made) + " bytes", done - made <= 4096);
         due.end();
@@ -26,6 +32,7 @@ public final class RoomTest {
         return threads.getThreadAllocatedBytes(Thread.currentThread().getId());
     }
 
+    /** As many calls as an object is made for, at most. */
     private static void work(TellKeys x) {
         x.sheet(0, 2, 24);
         for (int i = 0; i < 6; i++) {
@@ -35,7 +42,7 @@ public final class RoomTest {
             x.item(0, 2, 2 * i, i);
             x.item(0, 2, 2 * i + 1, 900);
         }
-        for (int i = 0; i < CALLS; i++) {
+        for (int i = 0; i < ROUNDS; i++) {
             x.type(0x302d316c30L, 5);
             x.house();
             x.type(0x76303e313a35L, 6);

@@ -10,22 +10,9 @@ public final class SheetsTest {
         promise25();
         promise26();
         promise27();
+        promise27Ahead();
         promise27Refusals();
         DUE.end();
-    }
-
-    /** Whether an item of a sheet of ints is a number 0 to 7: as a key, all of them there, and behind it a day. */
-    private static boolean isItem(TellKeys x, int sheet, int i, int v) {
-        x.sheet(3, 2, 4);
-        x.copy(sheet, i, 3, 0, 1);
-        x.item(3, 2, 1, 999);
-        x.item(3, 2, 3, 999);
-        boolean twice = true;
-        for (int other = 0; other < 8; other++) {
-            x.item(3, 2, 2, other);
-            twice &= x.asked(3, 2, 0, 2, -1) == (other == v ? -2 : 0);
-        }
-        return twice;
     }
 
     private static TellKeys withKeys() {
@@ -38,7 +25,7 @@ public final class SheetsTest {
 
     private static void itemsAre(TellKeys x, String after, int sheet, int... items) {
         for (int i = 0; i < items.length; i++) {
-            DUE.holds(after + ": item " + i + " is " + items[i], isItem(x, sheet, i, items[i]));
+            DUE.is(after + ": item " + i, items[i], Due.read(x, sheet, 2, i));
         }
     }
 
@@ -197,6 +184,13 @@ public final class SheetsTest {
         itemsAre(x, "from it", 0, 1, 2, 3, 4, 5, 6);
         DUE.is("to behind", 4, x.copy(0, 0, 0, 2, 4));
         itemsAre(x, "to behind", 0, 1, 2, 1, 2, 3, 4);
+    }
+
+    private static void promise27Ahead() {
+        TellKeys x = withKeys();
+        x.sheet(0, 2, 6);
+        x.sheet(1, 2, 4);
+        Due.fill(x, 1, 2, 0, 3, 4, 5);
         Due.fill(x, 0, 2, 1, 2, 3, 4, 5, 6);
         DUE.is("to ahead", 5, x.copy(0, 1, 0, 0, 5));
         itemsAre(x, "to ahead", 0, 2, 3, 4, 5, 6, 6);
