@@ -108,6 +108,14 @@ public final class BoundsKeysTest {
             doc.is("its kind", 3 - key % 4, x.told(key, 0));
             doc.is("whether it tells", key / 4, x.told(key, 1));
         }
+        TellKeys y = Due.with("0-1l0", 0, IRON);
+        y.next();
+        y.visit(0, 1, 5);
+        doc.is("one behind a stained one", 1, y.key(GLASS, 0));
+        int[] first = {IRON, 1, 0, 5, 1};
+        for (int what = 0; what < 5; what++) {
+            doc.is("the first is as it was: " + what, first[what], y.told(0, what));
+        }
         doc.promise(3, "BAD;");
         doc.bad(new TellKeys(), "key", new int[] {1, 1}, 0, 3, 0, 1);
     }

@@ -58,6 +58,13 @@ public final class BoundsSheetsTest {
             doc.is("as many as there are", keys, y.film(0, 1, 24 - keys));
             y.key(IRON, 0);
         }
+        TellKeys z = withKeys();
+        z.visit(0, 1, 5);
+        z.sheet(0, 2, 3);
+        z.sheet(2, 2, 8);
+        doc.is("to sheet 2", 8, z.film(2, 2, 0));
+        doc.is("it came there", 5, Due.read(z, 2, 2, 0));
+        doc.is("not to sheet 0", 0, Due.read(z, 0, 2, 0));
     }
 
     private static void filmRefused() {

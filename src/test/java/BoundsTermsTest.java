@@ -438,6 +438,21 @@ public final class BoundsTermsTest {
         x.visit(0, 1, 2);
         doc.is("a new stain", 2, x.told(0, 3));
         doc.is("of today", 2, x.told(0, 4));
+        TellKeys y = Due.with("0-1l0,0-2l1", 0, IRON, SILVER);
+        y.next();
+        y.visit(0, 2, 1);
+        y.wash(0, 1);
+        doc.is("a key behind the first: no day", 0, y.told(1, 4));
+        y.visit(0, 1, 9);
+        y.visit(0, 2, 9);
+        doc.is("half", 4, y.wash(0, 1));
+        doc.is("of the same day, whatever the first has", 1, y.told(1, 4));
+        doc.is("a quarter", 2, y.wash(0, 1));
+        doc.is("an eighth", 1, y.wash(0, 1));
+        doc.is("nothing", 0, y.wash(0, 1));
+        doc.is("and no day, whatever the first has", 0, y.told(1, 4));
+        doc.is("the first has all of its own", 9, y.told(0, 3));
+        doc.is("of its own day", 1, y.told(0, 4));
     }
 
     private static void stainsAre(TellKeys x, String of, int... minutes) {
@@ -463,6 +478,9 @@ public final class BoundsTermsTest {
         x = Due.with("2-3l0,1-3l1,0-1l2,0-2l3", 0, IRON, IRON, IRON, IRON);
         x.visit(0, 3, 7);
         stainsAre(x, "2, 1 ahead of 3, 0", 0, 7, 7, 0);
+        x = Due.with("5-6l0,1-0l1,2-1l2", 0, IRON, IRON, IRON);
+        x.visit(0, 2, 7);
+        stainsAre(x, "1, 2, from their other sides", 0, 7, 7);
         x = Due.with("g-1,1-2,2-3,3-4,4-5,5-6,6-7,7-8,8-9l0", 0, IRON);
         doc.is("as many as there can be", 20 + 3, x.visit(0, 9, 3));
         stainsAre(x, "the last of ten", 3);
